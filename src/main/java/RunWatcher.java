@@ -1282,7 +1282,7 @@ public final class RunWatcher {
 
         /** The pair of first states counts only where some event leads back to it. */
         void meet(Watcher here, Watcher there) {
-            for (int i = 0; i < depths.length; i++) {
+            for (int i = 0; i < here.size() * MOST_STATES; i++) {
                 put(depths, i, NONE);
             }
             queued = 0;

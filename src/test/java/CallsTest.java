@@ -7,7 +7,8 @@ public final class CallsTest {
     private static final String[] GOOD = {
         "G(a>Fb)", "aUb", "F(a&Nb)", "G(d>(!c S a))", "!G!a", ".", "!.", "a", "Fa", "Ga", "NNNa", "WWa",
         "G(a>NNb)", "G(b>Ya)", "H a", "F(d&Oa)", "aUbUc", "a/b&c", "a>b>c", "(aUb)/(cUd)", "G(a>!Ob)",
-        "F(YYYa&NWc)", "cUNWNNNWb", "FGYYYYYa", "GFYYa", "F.", "G!a", "N.", "W!.", "!a", "!.&a", "a&Fb", "a&Wb"
+        "F(YYYa&NWc)", "cUNWNNNWb", "FGYYYYYa", "GFYYa", "F.", "G!a", "N.", "W!.", "!a", "!.&a", "a&Fb", "a&Wb",
+        "FGYYYYcUa", "FYYYYYcUa"
     };
 
     private final RunWatcher x = new RunWatcher();

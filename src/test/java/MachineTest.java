@@ -55,7 +55,8 @@ public final class MachineTest {
         Rules rules = new Rules(12);
         List<String> texts = new ArrayList<>(List.of("F(YYYa&NWc)", "cUNWNNNWb", "G(YaUNWWa)", "FGYYYYa",
             "YYYYYYbSc", "(O(dSYb)Sd)Sa", "NNNNNNNNa", "WWWWWWWWa", "FYYYYYYYa", "F(a&NNNNNb)", "!(aUb)S!.",
-            "G(a>NNNb)", "G(a>NNNNb)", "FGYYYYYa"));
+            "G(a>NNNb)", "G(a>NNNNb)", "FGYYYYYa",
+            "FGYYYYcUa", "!bUGYYYYd", "FYYYYYcUa", "FaUGYYYYd"));
         for (int i = 0; i < 900; i++) {
             texts.add(rules.sound(1 + i % 9));
         }

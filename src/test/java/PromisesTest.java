@@ -396,57 +396,31 @@ public final class PromisesTest {
         due("13 one state", x.may(2), 1);
     }
 
-    /** Of all states kept some sure, some not: 1; of all not kept likewise: 0; else 4. */
     private static void promise14() {
         RunWatcher x = new RunWatcher();
         due("14 no rule", x.told(-1), STATE);
-        Due.read(x, "G(a>Wb)&F.");
+        Due.read(x, "Fa");
         due("14 key 16", x.told(16), UNKNOWN);
         due("14 key -1", x.told(-1), UNKNOWN);
-        due("14 at first", x.told(0), 1);
-        Due.read(x, "a/Wa");
-        x.event(1, 0);
-        due("14 kept so far", x.told(0), 1);
-        Due.read(x, "W(a/c)");
-        x.event(0, 4);
-        due("14 not open yet", x.told(4), 1);
-        x.lost(4, 1);
-        due("14 kept and not", x.told(4), 4);
-        Due.read(x, "Fa");
+        due("14 at first", x.told(15), 1);
         x.event(1, 4);
         due("14 not kept so far", x.told(4), 0);
         x.lost(4, 1);
-        due("14 some sure, some not kept", x.told(4), 4);
+        due("14 some not kept so far, some sure and kept", x.told(4), 4);
         x.event(0, 4);
         due("14 all sure", x.told(4), 3);
-        Due.read(x, "a&N.");
-        x.event(0, 1);
-        due("14 not kept so far, of one", x.told(1), 0);
-        Due.read(x, "a>N(a/.)");
-        x.lost(7, 1);
-        due("14 not all alike", x.told(7), 4);
-        Due.read(x, "W.");
-        due("14 always kept", x.told(7), 3);
-        Due.read(x, "F(b&Ya)&!.");
-        x.lost(7, 1);
-        due("14 kept at first, sure not behind", x.told(7), 4);
+        Due.read(x, "W(a/b/c/d)");
+        due("14 a rule that all keep", x.told(4), 3);
         Due.read(x, "WWa");
         x.event(0, 2);
-        due("14 one kept so far", x.told(2), 1);
+        due("14 kept so far", x.told(2), 1);
         due("14 all kept so far", x.lost(2, 1), 1);
-        Due.read(x, "W(a/b/c/d)");
-        due("14 a rule that all keep", x.told(2), 3);
+        due("14 all that, or sure", x.lost(2, 1), 4);
         allKeptSomeSure(x);
         allNotSomeSure(x);
     }
 
     private static void allKeptSomeSure(RunWatcher x) {
-        Due.read(x, "G!b/Fa");
-        x.event(2, 0);
-        due("14 kept so far or sure and kept or not kept", x.lost(0, 1), 4);
-        Due.read(x, "aUb/Wd");
-        x.event(0, 0);
-        due("14 ahead", x.told(0), 1);
         Due.read(x, "WWa/b");
         due("14 kept and sure, or kept so far", x.lost(0, 1), 1);
         due("14 it may be in three states", x.may(0), 3);
