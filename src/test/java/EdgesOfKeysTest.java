@@ -1,3 +1,6 @@
+import java.util.Set;
+import java.util.TreeSet;
+
 /**
  * The document's edges, sentence by sentence: terms 3 (KEYS, LOST, VERDICT of a KEY, LET GO) and
  * promises 12 to 18. Each function is one sentence, which stands above it.
@@ -40,6 +43,7 @@ public final class EdgesOfKeysTest {
         eventsThatAreNot();
         withoutRule();
         firstRefusal();
+        eachStateOfMany();
         Due.end();
     }
 
@@ -570,5 +574,52 @@ public final class EdgesOfKeysTest {
         due("lost: UNKNOWN ahead of OUTSIDE", x.lost(-1, 101), UNKNOWN);
         due("state: UNKNOWN ahead of NONE", x.state(16, 9), UNKNOWN);
         due("event: neither is there", x.event(4, 16), UNKNOWN);
+    }
+
+    /** Promises 12 to 16 in each state of the greatest watchers, also those behind 32 others. */
+    private static void eachStateOfMany() {
+        for (String rule : new String[] {"(FGYYYYaUb)", "F(a&NNNNNb)", "G(aUYYYYYa)"}) {
+            RunWatcher x = Due.with(rule);
+            int[][] leads = new int[x.count(0)][4];
+            String[] runs = new String[leads.length];
+            runs[0] = "";
+            for (int state = 0; state < leads.length; state++) {
+                for (int event = 0; event < 4; event++) {
+                    int to = x.leads(state, event);
+                    leads[state][event] = to;
+                    runs[to] = runs[to] == null ? runs[state] + (char) ('a' + event) : runs[to];
+                }
+            }
+            for (int state = 0; state < leads.length; state++) {
+                oneState(rule, leads, runs[state], state);
+            }
+        }
+    }
+
+    private static void oneState(String rule, int[][] leads, String run, int state) {
+        RunWatcher x = Due.with(rule);
+        events(x, 8, run);
+        states(x, 8, state);
+        due(rule + " told behind " + run, x.told(8), x.verdict(state));
+        for (int event = 0; event < 4; event++) {
+            Set<Integer> may = new TreeSet<>(Set.of(state));
+            for (int to : leads[state]) {
+                may.add(to);
+            }
+            events(x, event, run);
+            x.lost(event, 1);
+            sameStates(x, event, may);
+            Set<Integer> then = new TreeSet<>();
+            for (int each : may) {
+                then.add(leads[each][event]);
+            }
+            boolean sure = x.told(event) > 1 && x.told(event) < 4;
+            x.event(event, event);
+            sameStates(x, event, sure ? may : then);
+        }
+    }
+
+    private static void sameStates(RunWatcher x, int key, Set<Integer> want) {
+        states(x, key, want.stream().mapToInt(Integer::intValue).toArray());
     }
 }
