@@ -54,10 +54,10 @@ public final class RunWatcher {
         if (bytes + more > MOST_BYTES) {
             return FULL;
         }
-        for (int i = 0; i < more && bytes < tape.length; i++) {
-            tape[bytes] = byteOf(w, i);
-            bytes++;
+        for (int i = 0; i < more; i++) {
+            put(tape, bytes + i, byteOf(w, i));
         }
+        bytes += more;
         return bytes;
     }
 
