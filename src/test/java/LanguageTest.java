@@ -24,6 +24,8 @@ public final class LanguageTest {
         nowhere(code, "\\bstatic\\s*\\{");
         nowhere(code, "\\bstatic\\s+(?!final\\b)(\\w|\\[\\])+\\s+\\w+\\s*[=;]");
         nowhere(code, "[^\\x00-\\x7f]");
+        Due.due("each new one is made with the object, where a field begins", many(code, "\\bnew\\b"),
+            many(code, "\\n *private (final )?[\\w\\[\\]]+ \\w+ = new [^;{]*;"));
         privateNames(code);
         Due.due("classes inside", many(code, "\\bclass\\s+\\w+") - 1 <= 12 ? 1 : 0, 1);
         Due.due("classes inside are private, static and final",
